@@ -363,7 +363,10 @@ public final class FlyFloorPromises {
         part = "promise 11";
         FlyFloor x = with("f254;l3501;a3620;w0000");
         due("more than there are", x.brick(2, 5), STATE);
-        due("as many as there are", x.brick(2, 2), 0);
+        due("as many as there are", x.brick(2, 4), 1);
+        due("STOCK", x.many(3), 0);
+        due("undo", x.undo(), 0);
+        due("fewer than there are", x.brick(2, 2), 0);
         due("STOCK", x.many(3), 2);
         due("3 above 0", x.brick(2, 3), 1);
         due("STOCK", x.many(3), 1);
@@ -740,6 +743,7 @@ public final class FlyFloorPromises {
         due("60", x.sheet(0, 0, 60), 1);
         due("fault", x.fault(), 0);
         due("put", x.put(0, 59, 300), 1);
+        due("put", x.put(0, 0, 7), 1);
         due("cut to a byte", x.cell(0, 59, 0), 44);
         due("put 60", x.put(0, 60, 1), INDEX);
         due("fault", x.fault(), 3);
@@ -749,6 +753,7 @@ public final class FlyFloorPromises {
         due("fault of a refusal", x.fault(), 0);
         due("anew", x.sheet(0, 1, 60), 1);
         due("0 at first", x.cell(0, 59, 1), 0);
+        due("0 at first", x.cell(0, 0, 1), 0);
         x.put(0, 1, 40000);
         due("cut to a short", x.cell(0, 1, 1), 40000 - 65536);
         x.sheet(0, 2, 2);

@@ -340,10 +340,12 @@ public final class FlyFloorSearches {
 
     public static void main(String[] args) {
         Random r = new Random(20261118);
+        FlyFloor x = new FlyFloor();
         for (int k = 0; k < LOFTS; k++) {
             Model m = draw(r);
             text = tell(m);
-            FlyFloor x = new FlyFloor();
+            // A second LOFT on an object, so that what the first has left in its rows would show.
+            x = k % 2 == 0 ? new FlyFloor() : x;
             put(x, 0, text.chars().toArray());
             due("loft", x.loft(0, 2, 0, text.length()), m.n);
             ofEach(x, m);
