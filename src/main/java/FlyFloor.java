@@ -318,8 +318,9 @@ public final class FlyFloor {
         if (readings.count >= MOST_READINGS) {
             return FULL;
         }
+        int number = readings.count;
         readings.add(b, d, v);
-        return readings.count;
+        return number;
     }
 
     public int back(int k) {

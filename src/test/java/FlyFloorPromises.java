@@ -660,8 +660,8 @@ public final class FlyFloorPromises {
     private static void readings() {
         part = "promises 20, 21";
         FlyFloor x = with(FIVE);
-        due("the first", x.reading(0, 1, 0), 1);
-        due("the second", x.reading(4, 9, 81), 2);
+        due("the first", x.reading(0, 1, 0), 0);
+        due("the second", x.reading(4, 9, 81), 1);
         due("no BATTEN", x.reading(5, 0, -1), UNKNOWN);
         due("d 0", x.reading(0, 0, 0), OUTSIDE);
         due("d 10", x.reading(0, 10, 0), OUTSIDE);
@@ -673,14 +673,17 @@ public final class FlyFloorPromises {
         due("back 0", x.back(0), 2);
         due("back 1", x.back(1), 1);
         due("loads are as without it", x.loads(0), 1 << 3);
-        due("the second anew", x.reading(0, 1, 0), 2);
-        for (int k = 3; k <= 8; k++) {
+        due("the second anew", x.reading(0, 1, 0), 1);
+        for (int k = 2; k <= 7; k++) {
             due("number " + k, x.reading(0, 1, 0), k);
         }
         due("a ninth", x.reading(0, 1, 0), FULL);
         due("OUTSIDE ahead of FULL", x.reading(0, 1, 82), OUTSIDE);
         due("all", x.back(8), 0);
         due("none", x.back(1), OUTSIDE);
+        due("the first anew", x.reading(0, 1, 0), 0);
+        read(x, FIVE);
+        due("the first of a new LOFT", x.reading(0, 1, 0), 0);
         due("no LOFT", new FlyFloor().back(0), 0);
         due("no LOFT", new FlyFloor().back(MAX), OUTSIDE);
     }

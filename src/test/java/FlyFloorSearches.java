@@ -311,7 +311,7 @@ public final class FlyFloorSearches {
             int d = 1 + r.nextInt(9);
             int pull = r.nextInt(3) > 0 ? m.pull(b) : r.nextInt(10);
             all[k] = new int[] {b, d, pull * d};
-            due("reading", x.reading(b, d, pull * d), k + 1);
+            due("reading", x.reading(b, d, pull * d), k);
         }
         for (int b = 0; b < m.n; b++) {
             int loads = 0;
