@@ -31,6 +31,11 @@ public final class FlyFloorLanguage {
         "protected", "volatile", "native", "var", "Object", "Exception", "->", "::", "Exact\\(",
     };
 
+    /** What the class uses of what rule 4 leaves; Long.MIN_VALUE stands in the document's face. */
+    private static final String[] LIBRARY = {
+        "Math.abs", "Math.max", "Math.min", "System.arraycopy", "Long.MIN_VALUE",
+    };
+
     private static int wrong = 0;
 
     private static void require(boolean holds, String what) {
@@ -78,8 +83,38 @@ public final class FlyFloorLanguage {
         require(Modifier.isFinal(FlyFloor.class.getModifiers()), "the class is not final");
         require(FlyFloor.class.getDeclaredClasses().length <= 12, "more than twelve classes inside");
         for (Class<?> c : FlyFloor.class.getDeclaredClasses()) {
-            require(Modifier.isStatic(c.getModifiers()), "not static: " + c);
+            inside(c);
         }
+    }
+
+    private static void inside(Class<?> c) {
+        require(Modifier.isStatic(c.getModifiers()), "not static: " + c);
+        require(!Modifier.isPublic(c.getModifiers()) && !Modifier.isProtected(c.getModifiers()), "too open: " + c);
+        require(c.getDeclaredClasses().length == 0, "a class inside a class inside: " + c);
+        int changing = 0;
+        for (Field f : c.getDeclaredFields()) {
+            boolean isStatic = Modifier.isStatic(f.getModifiers());
+            changing += isStatic ? 0 : 1;
+            require(!isStatic || Modifier.isFinal(f.getModifiers()), "static and not final: " + f);
+        }
+        require(changing <= 20, "more than twenty fields: " + c);
+        for (Method m : c.getDeclaredMethods()) {
+            require(m.getParameterCount() <= 7, "more than seven parameters: " + m);
+        }
+    }
+
+    /** What is named as Some.thing is of the list in LANGUAGE.md, or a class inside. */
+    private static void library(String code) {
+        Set<String> own = new TreeSet<>();
+        for (Class<?> c : FlyFloor.class.getDeclaredClasses()) {
+            own.add(c.getSimpleName());
+        }
+        Matcher m = Pattern.compile("\\b([A-Z]\\w*)\\s*\\.\\s*(\\w+)").matcher(code);
+        while (m.find()) {
+            String used = m.group(1) + "." + m.group(2);
+            require(own.contains(m.group(1)) || List.of(LIBRARY).contains(used), "not of the library: " + used);
+        }
+        require(!code.matches("(?s).*\\bjavax?\\s*\\..*"), "a class by its package");
     }
 
     private static void words() throws Exception {
@@ -91,6 +126,7 @@ public final class FlyFloorLanguage {
             Matcher m = Pattern.compile(isName ? "\\b" + word + "\\b" : word).matcher(code);
             require(!m.find(), "ruled out: " + word);
         }
+        library(code);
         Matcher made = Pattern.compile("\\bnew\\b").matcher(code.replaceAll("(?s)public FlyFloor\\(\\).*?\n    }\n", "")
             .replaceAll("(?s)        Past\\(\\).*?\n        }\n", "").replaceAll("final [^;=]*= new [^;]*;", ""));
         require(!made.find(), "an object is made outside a constructor");
